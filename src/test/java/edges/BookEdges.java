@@ -75,6 +75,8 @@ final class BookEdges {
         book(FOUR, entries(), 0, 0, 0, 15);
         book(FOUR, entries(1, 2), 1, 1, 1, 2);
         book(FOUR, entries(0, 1, 0, 2, 0, 3), 0, 3, 7, 1);
+        book(FOUR, entries(0, 1, 1, 2, 0, 3, 2, 1), 0, 3, 7, 1);
+        book(FOUR, entries(0, 1, 1, 2, 0, 3, 1, 2), 0, 3, 7, 1);
         book(FOUR, entries(0, 1, 1, 2, 0, 2), 0, 3, 7, 1);
         book(FOUR, entries(0, 1, 1, 2, 0, 3, 1, 2), 0, 3, 7, 1);
         book(FOUR, entries(0, 1, 1, 2, 2, 3, 1, 3, 2, 0), 0, 4, 15, 1);

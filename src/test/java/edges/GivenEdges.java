@@ -155,13 +155,35 @@ final class GivenEdges {
         moves(ONE + "want b s 59 60 1;", row(59, 1, 10, 10), row(60, 1, 10, 10));
         moves(ONE + "thing s a;want b s 0 5 1;want c s 0 5 1;", row(0, 2, 40, 40), row(5, 2, 40, 40));
         moves(ONE + "sort t 1;thing t a;want b t 0 5 1;want c s 0 6 1;", row(0, 1, 30, 30), row(6, 1, 30, 30));
-        OnlyLent x = Check.lent(ONE + "want b s 0 5 1;");
+        OnlyLent x = Check.lent(ONE + "thing s b;want b s 0 5 1;want b s 0 5 1;");
+        e.due("of two things, one at home", x.moves(0, 0, 0), 1);
+        x.lose(1);
+        e.due("of the one that is left", x.moves(0, 0, 0), 1);
+        e.due("how far", x.moves(0, 0, 1), 10);
+        e.due("spread with it alone", x.spread(), 0);
         x.lose(0);
         e.due("of a lost thing there are none", x.moves(0, 0, 0), 0);
+        eachByItsOwnWay();
         e.of("Terms 4", "(home between two WANTS: on the B of the first of them, and out on the A of the other;");
         moves(ONE + "want b s 0 5 1;want c s 7 9 1;hands 1;", row(0, 1, 10, 10), row(5, 1, 10, 10), row(7, 1, 30, 30), row(9, 1, 30, 30));
         moves(ONE + "want b s 0 5 1;want c s 5 9 1;hands 1;", row(0, 1, 10, 10), row(5, 2, 40, 20), row(9, 1, 30, 30));
         moves(ONE + "want b s 0 5 1;want c s 5 9 1;hands 2;", row(0, 1, 10, 10), row(5, 1, 20, 20), row(9, 1, 30, 30));
+    }
+
+    /** Two things that are home behind other ones of their wants. */
+    private void eachByItsOwnWay() {
+        String middle = "person o 50;person a 40;person b 60;sort s 1;sort t 1;thing s o;thing t o;hands 2;";
+        String first = "want a X 0 1 1;want b X 2 3 1;want b X 4 5 1;";
+        String second = "want b X 0 1 1;want b X 2 3 1;want a X 4 5 1;";
+        int[] split = {1, 1, 1, 0, 0, 1};
+        int[] behind = {1, 0, 0, 1, 1, 1};
+        for (int turn = 0; turn < 2; turn++) {
+            OnlyLent x = Check.lent(middle + first.replace('X', turn == 0 ? 's' : 't') + second.replace('X', turn == 0 ? 't' : 's'));
+            for (int day = 0; day < 6; day++) {
+                e.due("home behind the first want, day " + day, x.moves(turn, day, 0), split[day]);
+                e.due("home behind the second want, day " + day, x.moves(1 - turn, day, 0), behind[day]);
+            }
+        }
     }
 
     private void noMoveFromAPlaceToItself() {
@@ -246,6 +268,10 @@ final class GivenEdges {
         e.of("Terms 4", "none, if that can't be.");
         spread(THREE + "want b s 0 9 1;want b s 0 9 1;road 1;", NONE);
         spread(THREE + "want b s 0 9 1;want b s 0 9 1;road 2;", 0);
+        spread(THREE + "want b s 58 60 1;want b s 58 60 1;road 1;", NONE);
+        spread(THREE + "want b s 59 60 1;want b s 59 60 1;road 1;", NONE);
+        spread(THREE + "want b s 59 60 1;want b s 0 59 1;road 2;", 0);
+        spread(THREE + "want b s 58 60 1;want b s 0 59 1;want b s 1 59 1;want b s 59 60 1;road 2;", 0);
         spread(THREE + "want b s 0 9 1;want b s 0 9 1;want b s 0 9 1;road 2;", NONE);
         String between = "person a 0;person b 10;sort s 1;thing s a;hands 1;road 1;want b s 0 5 1;";
         spread(between + "want b s 5 9 1;", NONE);

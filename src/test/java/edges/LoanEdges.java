@@ -212,6 +212,15 @@ final class LoanEdges {
         for (int p = 1; p < 8; p++) y.lend(0, p, 3);
         e.due("seven loans on one day", y.go(3), 7);
         thing(y, 0, 0, 0, 0, NONE, 1, 0);
+        OnlyLent z = Check.lent(ROAD);
+        z.lend(0, 3, 60);
+        z.lend(0, 2, 60);
+        z.lend(0, 1, 60);
+        for (int i = 0; i < 3; i++) z.back(0);
+        z.lend(0, 3, 5);
+        e.due("loans that were given back are no matter, the day ahead", z.go(4), 0);
+        e.due("and on the day", z.go(1), 99);
+        thing(z, 0, 0, 0, 0, NONE, 1, 0);
     }
 
     private void carriedStraight() {

@@ -108,6 +108,9 @@ final class MetEdges {
         met(ONE + "thing s a;want a s 0 5 4;want a s 0 5 4;want a s 0 5 4;", 3, 8);
         met(ONE + "sort t 1;thing t a;want a t 0 5 4;want a s 0 5 4;want b t 0 5 4;want b s 0 5 4;", 3, 8);
         met(ONE + "sort t 1;thing t a;want a s 0 9 2;want a t 0 9 2;want b s 0 1 1;want b s 1 2 1;want b t 0 1 1;want b t 1 2 1;", 3, 4);
+        // Fewest comes ahead of the bits, also when the fewest have the highest bits.
+        met(ONE + "sort t 1;want a s 0 3 2;want a s 3 6 2;want a s 6 9 2;" + "want a t 0 1 1;".repeat(6) + "want b s 20 21 9;want b s 0 5 3;want b s 5 9 3;",
+            512 + 1024 + 2048, 15);
         StringBuilder all = new StringBuilder(ONE + "sort t 1;thing t a;");
         for (int i = 0; i < 6; i++) all.append("want b s ").append(10 * i).append(' ').append(10 * i + 10).append(" 99;");
         for (int i = 5; i >= 0; i--) all.append("want c t ").append(10 * i).append(' ').append(10 * i + 10).append(" 99;");
@@ -198,6 +201,10 @@ final class MetEdges {
         for (int i = 0; i < 6; i++) text.append("want b s ").append(5 * i).append(' ').append(5 * i + 5).append(" 99;");
         for (int i = 6; i < 12; i++) text.append("want c t ").append(5 * i).append(' ').append(5 * i + 5).append(" 98;");
         e.due("twelve wants, one thing", Check.lent(text.toString()).other(), 588);
+        StringBuilder many = new StringBuilder(ONE + "sort t 1;want a s 0 60 10;");
+        for (int i = 0; i < 5; i++) many.append("want b s ").append(i).append(' ').append(i + 1).append(" 1;");
+        for (int i = 5; i < 11; i++) many.append("want b t ").append(i).append(' ').append(i + 1).append(" 1;");
+        e.due("eleven for one, by one", Check.lent(many.toString()).other(), 1);
         String four = "thing s a;thing t a;thing u a;thing v a;".repeat(3);
         String wants = "want a s 0 60 5;".repeat(6) + "want b t 0 60 4;".repeat(6);
         e.due("twelve wants, twelve things", Check.lent("person a 0;person b 0;sort s 1;sort t 1;sort u 1;sort v 1;" + four + wants).other(), 27);

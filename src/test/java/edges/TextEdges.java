@@ -116,9 +116,29 @@ final class TextEdges {
         fault("person a 1 2;", 11);
         fault("person a b 1;", 9);
         fault("person a 1;;sort s 1;", 11);
+        wordsAlikeButForALetter();
         e.of("Terms 1", "with any blanks (32) and line ends (10) between");
         stands("person" + "\n".repeat(100) + "a" + " ".repeat(100) + "1 \n ; \n sort\ns\n1\n;\n");
         stands("  \nperson a 1;sort s 1;");
+    }
+
+    /** A word that begins a line, with one letter changed, left out or put in, begins none, but is a name. */
+    private void wordsAlikeButForALetter() {
+        String[] lines = {"person c 1;", "sort u 1;", "thing s a;", "want a s 0 1 1;", "hands 1;", "road 1;", "heir a b;"};
+        for (String line : lines) {
+            String word = line.substring(0, line.indexOf(' '));
+            String rest = line.substring(word.length());
+            for (int i = 0; i < word.length(); i++) {
+                char next = (char) (word.charAt(i) + 1);
+                String changed = word.substring(0, i) + next + word.substring(i + 1);
+                String less = word.substring(0, i) + word.substring(i + 1);
+                String more = word.substring(0, i) + "x" + word.substring(i);
+                for (String other : new String[] {changed, less, more}) {
+                    tail(other + rest, 0);
+                    tailStands("sort " + other + " 1;");
+                }
+            }
+        }
     }
 
     private void linesInAnyOrder() {
@@ -534,6 +554,43 @@ final class TextEdges {
         e.statuses(x, 3, 0, 0);
         theSameLandAgain();
         namesOfTheOldLand();
+        oneLandBehindTheOther();
+    }
+
+    private static final String FULL = "person a 0;person b 10;person c 99;person d 40;sort s 9;sort t 8;sort u 7;sort v 6;"
+        + "thing s a;thing s b;thing s c;thing s d;thing t a;thing t b;thing u c;thing v d;"
+        + "want c s 0 9 5;want d s 2 9 5;want a s 5 9 5;want d t 0 9 5;want a t 9 20 5;want b u 0 60 9;want a v 3 60 9;want b v 0 4 9;"
+        + "hands 1;road 2;heir a b;heir b c;";
+    private static final String[] LANDS = {FULL, "person a 7;sort s 1;", "person a 7;person b 9;sort s 1;thing s b;thing s b;",
+        "person a 7;sort s 1;sort t 2;thing t a;want a t 3 5 8;", "person a 7;person b 9;sort s 1;want b s 3 5 8;hands 3;"};
+
+    /** A land in an object that had others answers as it does in a new object. */
+    private void oneLandBehindTheOther() {
+        for (String first : LANDS) {
+            for (String second : LANDS) {
+                for (String third : LANDS) {
+                    OnlyLent x = Check.lent(first);
+                    liveThrough(x);
+                    Check.feed(x, second);
+                    x.land();
+                    liveThrough(x);
+                    Check.feed(x, third);
+                    x.land();
+                    e.same("a third land", Answers.ofLand(Check.lent(third)), Answers.ofLand(x));
+                }
+            }
+        }
+    }
+
+    /** Asks all that is kept for later calls, without a loss, and lends what can be lent. */
+    private static void liveThrough(OnlyLent x) {
+        x.met(0);
+        x.other();
+        x.earth(3);
+        for (int t = 0; t < x.count(2); t++) {
+            x.lend(t, (x.thing(t, 1) + 1) % x.count(0), 2);
+        }
+        x.spread();
     }
 
     private void theSameLandAgain() {
@@ -684,6 +741,18 @@ final class TextEdges {
             e.due("the land stays", x.count(0), 2);
         }
         e.statuses(x, 0, 0, 0);
+        String full = people(8) + sorts(4) + times("thing sa pa;thing sb pa;thing sc pa;", 4) + "hands 3;road 4;heir pa pb;";
+        fedAndAsked(full, 8, 4, 12, 0);
+        fedAndAsked(people(1) + sorts(2) + times("want pa sa 0 1 1;want pa sb 0 1 1;", 6), 1, 2, 0, 12);
+    }
+
+    /** A text that is read over and over stands as it did. */
+    private void fedAndAsked(String text, int... counts) {
+        OnlyLent x = new OnlyLent();
+        Check.feed(x, text);
+        for (int i = 0; i < 5; i++) e.due("fault() again", x.fault(), NONE);
+        e.due("land()", x.land(), counts[0]);
+        for (int what = 0; what < 4; what++) e.due("count(" + what + ")", x.count(what), counts[what]);
     }
 
     private void land() {

@@ -25,6 +25,19 @@ final class Answers {
         return answers.rows;
     }
 
+    /** The answers of an object but for its images (some 400 calls at most). */
+    static List<String> ofLand(OnlyLent x) {
+        Answers answers = new Answers(x);
+        answers.land();
+        answers.held();
+        answers.found();
+        answers.more();
+        for (int k = 0; k < 3; k++) answers.add("on " + k, x.on(k) ? 1 : 0);
+        answers.add("go 60", x.go(60));
+        answers.add("carried", x.count(5));
+        return answers.rows;
+    }
+
     private void add(String call, long answer) {
         rows.add(call + " = " + answer);
     }
@@ -56,10 +69,24 @@ final class Answers {
         }
         add("met", x.met(0));
         add("other", x.other());
+        add("shorts", x.shorts(0));
         for (int w = 0; w < x.count(3); w++) add("given " + w, x.given(w));
         for (int s = 0; s < x.count(1); s++) add("carry " + s, x.carry(s, -1));
         add("spread", x.spread());
         for (int what = 0; what < 4; what++) add("earth " + what, x.earth(what));
         add("years", x.years(5, 3, 9));
+    }
+
+    private void more() {
+        for (int s = 0; s < x.count(1); s++) {
+            for (int day : new int[] {0, 3, 5, 9}) add("moves " + s + " " + day, x.moves(s, day, 1));
+            add("price " + s, x.price(s, 3));
+        }
+        for (int p = 0; p < x.count(0); p++) {
+            add("late " + p, x.late(p, 7, 1));
+            add("bears " + p, x.bears(p));
+            add("dies " + p, x.dies(p, 4, 1));
+        }
+        for (int w = 0; w < x.count(3); w++) add("longer " + w, x.longer(w, 2));
     }
 }

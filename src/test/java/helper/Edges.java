@@ -62,7 +62,7 @@ final class Edges {
         refuses(name, made, call, answer, NONE);
     }
 
-    private void same(String name, List<String> due, List<String> got) {
+    void same(String name, List<String> due, List<String> got) {
         due(name + " leaves as many answers", got.size(), due.size());
         for (int i = 0; i < due.size() && i < got.size(); i++) {
             due(name + " leaves " + due.get(i) + ", not " + got.get(i), got.get(i).equals(due.get(i)), true);
