@@ -214,6 +214,9 @@ final class LateEdges {
         dies(z, 0, 0, 18, 0);
         OnlyLent fewest = Check.lent(ONE + "want a s 0 9 4;want b s 0 5 2;want c s 5 9 2;");
         dies(fewest, 0, 0, 4, 4);
+        OnlyLent behind = Check.lent(ONE + "want a s 0 1 5;want b s 1 3 5;want c s 4 6 5;");
+        e.due("one of the others longer, into the next one", behind.longer(1, 5), 5);
+        dies(behind, 0, 0, 5, 0);
         x.lose(0);
         dies(x, 0, 0, 0, 0);
     }

@@ -555,6 +555,7 @@ final class TextEdges {
         theSameLandAgain();
         namesOfTheOldLand();
         oneLandBehindTheOther();
+        askedTwice();
     }
 
     private static final String FULL = "person a 0;person b 10;person c 99;person d 40;sort s 9;sort t 8;sort u 7;sort v 6;"
@@ -579,6 +580,15 @@ final class TextEdges {
                     e.same("a third land", Answers.ofLand(Check.lent(third)), Answers.ofLand(x));
                 }
             }
+        }
+    }
+
+    /** What was asked ahead changes no answer. */
+    private void askedTwice() {
+        e.of("Terms 6", "REFUSED is each call that would change something and doesn't");
+        for (String text : LANDS) {
+            OnlyLent x = Check.lent(text);
+            e.same("asked once more", Answers.asked(x), Answers.asked(x));
         }
     }
 

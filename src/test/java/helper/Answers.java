@@ -25,13 +25,20 @@ final class Answers {
         return answers.rows;
     }
 
-    /** The answers of an object but for its images (some 400 calls at most). */
-    static List<String> ofLand(OnlyLent x) {
+    /** What an object answers when it is asked alone (some 200 calls for a large land). */
+    static List<String> asked(OnlyLent x) {
         Answers answers = new Answers(x);
         answers.land();
         answers.held();
         answers.found();
         answers.more();
+        return answers.rows;
+    }
+
+    /** The answers of an object but for its images (some 400 calls at most). */
+    static List<String> ofLand(OnlyLent x) {
+        Answers answers = new Answers(x);
+        answers.rows.addAll(asked(x));
         for (int k = 0; k < 3; k++) answers.add("on " + k, x.on(k) ? 1 : 0);
         answers.add("go 60", x.go(60));
         answers.add("carried", x.count(5));
